@@ -1,3 +1,4 @@
+import java.util.TreeSet;
 import java.util.function.Consumer;
 
 /** What the tests share: counting wrong answers, and looking at a whole state through the face. */
@@ -10,16 +11,68 @@ final class Check {
         1 << 30, MAX - 1, MAX
     };
 
+    /** A broken sweep would print hundreds of thousands of lines that say the same. */
+    private static final int MOST_LINES = 20;
+
     private static int wrong = 0;
+    private static int lines = 0;
+    private static String about = "";
 
     private Check() {
     }
 
+    /** The test of one sentence of the document: what is wrong in it is told under its words. */
+    static void sentence(String words, Runnable test) {
+        about = "[" + words + "] ";
+        lines = 0;
+        try {
+            test.run();
+        } catch (RuntimeException | StackOverflowError thrown) {
+            tell("threw " + thrown);
+        }
+        about = "";
+        lines = 0;
+    }
+
     static void same(String what, long got, long want) {
         if (got != want) {
-            wrong++;
-            System.out.println(what + " answered " + got + ", due is " + want);
+            tell(what + " answered " + got + ", due is " + want);
         }
+    }
+
+    private static void tell(String what) {
+        wrong++;
+        lines++;
+        if (lines <= MOST_LINES) {
+            System.out.println(about + what);
+        } else if (lines == MOST_LINES + 1) {
+            System.out.println(about + ".. and more");
+        }
+    }
+
+    static void holds(String what, boolean got) {
+        same(what, got, true);
+    }
+
+    /**
+     * Ints from the whole range, in rising order and none twice: all of them around 0, those
+     * around every power of two, and one in 65521 of the rest.
+     */
+    static int[] manyInts() {
+        TreeSet<Integer> ints = new TreeSet<>();
+        for (int near = -3; near <= 3; near++) {
+            for (int bit = 0; bit < 32; bit++) {
+                ints.add((1 << bit) + near);
+                ints.add(-(1 << bit) + near);
+            }
+        }
+        for (int i = -1100; i <= 1100; i++) {
+            ints.add(i);
+        }
+        for (long i = MIN; i <= MAX; i += 65521) {
+            ints.add((int) i);
+        }
+        return ints.stream().mapToInt(Integer::intValue).toArray();
     }
 
     static void same(String what, boolean got, boolean want) {
